@@ -41,22 +41,43 @@ public final class ModelTest {
                 System.exit(1);
             }
         }
-        texts(40000);
+        texts(40000 * Math.min(runs, 100) / 100);
         System.out.println(calls + " drawn calls answer as the model does");
     }
 
-    /** Faults of texts that are nearly right. */
+    /** Faults of texts that are nearly right, and what the right ones say. */
     private static void texts(int many) {
         ModelTest test = new ModelTest(99);
         for (int i = 0; i < many; i++) {
-            test.fair = new HoleFair();
-            test.model = new Model();
-            test.log.setLength(0);
+            if (i % 50 == 0) {
+                test.peopledLake();
+            }
             test.someLaw();
+            test.askLaw();
             if (test.wrong) {
                 System.out.println(test.log);
                 System.exit(1);
             }
+        }
+    }
+
+    private void peopledLake() {
+        fair = new HoleFair();
+        model = new Model();
+        log.setLength(0);
+        putLaw("c1(1=1);b999(1=1)");
+        for (int i = 0; i < 8; i++) {
+            cut(near(), near());
+            group(near(), near(), about(1, 99));
+            ice(near(), near(), about(0, 99));
+        }
+        minutes(1 + below(9));
+    }
+
+    private void askLaw() {
+        for (int i = 0; i < 3; i++) {
+            draws(someHole(), someGroup());
+            square(near(), near(), 2);
         }
     }
 

@@ -295,6 +295,14 @@ public final class PromiseTest {
         bears("b1(1=2|2=2&1=2);b2(1=1&1=2|3=3)", 2);
         bears("b1(!1=1|1=2);b2(!(1=2)&!!1=1)", 2);
         bears("b1((1=1|1=1)&1=2);b2(1=1|1=1&1=2)", 2);
+        bears("b1(1=2&1=1&1=1|2=2);b2(1=1)", 1);
+        bears("b1(1=1&1=2&1=1|2=3|3=3);b2(1=1)", 1);
+        bears("b1(1=1|1=2|1=2);b2(1=1)", 1);
+        bears("b1(!2>1);b2(!1<2);b3(!1=1);b4(!1>2&!2<1&!1=2)", 4);
+        bears("b1(!(1=1|1=2|1=2)|1=2);b2(1=1)", 2);
+        bears("b1((1=2&1=1&1=1|2=2)&1=1&1=1);b2(1=1)", 1);
+        bears("b1(!(1=2&1=1&1=1)&!(1=1&1=2&1=1)&!(1=1&1=1&1=2));b2(1=1)", 1);
+        bears("b1(1=1&(1=2|1=1|1=2)&!(1=2|1=2|1=1)|1=2);b2(1=1)", 2);
         bears("t9(1=1);c1(1=1);g9(1=1)", 0);
         bears("t5(1=1);b6(1=1);b7(1=1)", 6);
     }
@@ -344,6 +352,9 @@ public final class PromiseTest {
         due("d, w, q", f.draws(0, 0), 7 * 100 + 70 + 1);
         due("q with itself", f.draws(0, 1), 100 + 10 + 1);
         due("d 2 is not near", f.draws(0, 2), 200 + 10 + 1);
+        law(f, "b1+s+p+d+w+q(1=1);gs+p+d+w+q(1=1)");
+        due("in g they are not", f.draws(0, 0) > 0, true);
+        due("in b they are 0, behind a g too", f.square(5, 5, 2), 1);
         f = with("c1(1=1);gs*10+p(1=1)");
         f.cut(5, 5, 0, 0, 8, 3);
         f.group(0, 0, 1);
@@ -477,6 +488,12 @@ public final class PromiseTest {
         f.group(1, 1, 11);
         f.group(2, 1, 11);
         due("all such at once", f.settle(), 2);
+        f = with("b30-n*10(1=1)");
+        for (int i = 0; i < 8; i++) {
+            f.group(3 + i, 4, i == 7 ? 31 : 25);
+        }
+        due("eight, one behind the other", f.settle(), 8);
+        due("eight", f.count(7), 8);
         f = new HoleFair();
         f.group(1, 1, 1);
         due("no law bears nothing", f.settle(), 1);
@@ -729,6 +746,12 @@ public final class PromiseTest {
         due("nothing is changed", f.square(4, 5, 0), 49);
         f.shut(0);
         due("shut", f.sound(0, 1), -1);
+        for (int i = 0; i < 9; i++) {
+            f = with("c1(1=1);bi(1=1)");
+            f.cut(4, 4, 0, 0, 0, 0);
+            f.ice(3 + i % 3, 3 + i / 3, 7);
+            due("by each neighbour, not by itself", f.sound(0, 8), i == 4 ? 60 : 0);
+        }
         f = with("c1(1=1);b60-m(1=1)");
         f.cut(4, 4, 0, 1, 0, 0);
         due("59", f.sound(0, 2), 59);
@@ -949,6 +972,16 @@ public final class PromiseTest {
         }
         feed(f, forty);
         due("forty", f.began(40, 0), 0);
+        feed(f, forty);
+        f.feed(-1, -1, -1, -1, -1);
+        due("not forty-one", f.began(41, 0), -3);
+        f = with("b30-n*10(1=1);c1(1=1)");
+        f.group(5, 5, 25);
+        f.group(6, 5, 25);
+        feed(f, 0, 85);
+        due("as many, but not the same ones", f.began(2, 0), 0);
+        feed(f, 85, 0);
+        due("as many, but not the same ones", f.began(2, 0), 0);
     }
 
     private static void fee() {
@@ -984,6 +1017,8 @@ public final class PromiseTest {
         feed(f, 0, 4, 1, 0, 0, 5);
         due("twice", f.fee(3, 51, -1), -2);
         due("emptied", f.count(4), 0);
+        feed(f, 0, 4, 1, 1, 2, 5);
+        due("just bears it", f.fee(3, 60, -1), 3 + 4);
         f.cut(4, 4, 0, 0, 0, 0);
         feed(f, 68, 1);
         due("a hole", f.fee(1, 51, -1), -2);
@@ -995,6 +1030,7 @@ public final class PromiseTest {
 
     private static void row() {
         promise = 21;
+        rowsByAllSteps();
         HoleFair f = with("c1(1=1);b9(1=1)");
         due("x", f.row(-1, 0), -1);
         due("x", f.row(16, 0), -1);
@@ -1020,6 +1056,34 @@ public final class PromiseTest {
         f.shut(5);
         due("shut", f.row(3, 12), 0);
         due("cut lets it", f.cut(3, 12, 0, 0, 0, 0), 6);
+    }
+
+    private static void rowsByAllSteps() {
+        for (int dx = -4; dx <= 4; dx++) {
+            for (int dy = -4; dy <= 4; dy++) {
+                if (dx == 0 && dy == 0) {
+                    continue;
+                }
+                int want = Math.abs(dx) <= 3 && Math.abs(dy) <= 3 ? 1 : 0;
+                HoleFair f = with("c1(1=1)");
+                f.cut(8 + dx, 8 + dy, 0, 0, 0, 0);
+                f.cut(8 - dx, 8 - dy, 0, 0, 0, 0);
+                due("the middle by " + dx + ", " + dy, f.row(8, 8), want);
+                // 4 steps of 4 would leave the lake, so the ends stand about the middle
+                f = with("c1(1=1)");
+                f.cut(8, 8, 0, 0, 0, 0);
+                f.cut(8 - dx, 8 - dy, 0, 0, 0, 0);
+                if (8 + dx < 16 && 8 + dy < 16) {
+                    due("an end by " + dx + ", " + dy, f.row(8 + dx, 8 + dy), want);
+                }
+                f.cut(0, 0, 0, 0, 0, 0);
+                feed(f, 16 * (8 + dy) + 8 + dx, 7);
+                boolean beside = Math.abs(dx) <= 1 && Math.abs(dy) <= 1;
+                due("places by " + dx + ", " + dy, f.places(1, -1), want == 1 || beside ? 0 : 7);
+                feed(f, 16 * (8 + dy) + 8 + dx, 7, 16 * (8 + 2 * dy & 15) + (8 + 2 * dx & 15), 0);
+                due("places by " + dx + ", " + dy, f.places(2, -1), want == 1 || beside ? 0 : 7);
+            }
+        }
     }
 
     private static void seed() {
@@ -1162,6 +1226,8 @@ public final class PromiseTest {
         }
         numbers(f, 50, 50, 50);
         due("the first", f.check(3, 3), 1);
+        numbers(f, 50, -2, -1, 50, 50);
+        due("five of five", f.check(3, 5), -1);
         numbers(f, 50, 50, 50, 50, 50);
         due("six of five", f.check(3, 6), -2);
         due("none", f.check(3, 0), -1);
@@ -1178,10 +1244,12 @@ public final class PromiseTest {
             f.group(2 * i, 8, i < 4 ? 11 : 3);
         }
         f.group(0, 8, 20);
+        f.group(0, 0, 11);
+        f.group(15, 15, 11);
         f.minutes(7);
         f.seed(9);
         f.feed(0, 0, 0, 0, 0);
-        int[] want = {7, 2, 6, 3, 20, 9, 4, 5};
+        int[] want = {7, 2, 8, 3, 20, 9, 6, 7};
         for (int i = 0; i < 8; i++) {
             due("count " + i, f.count(i), want[i]);
         }
