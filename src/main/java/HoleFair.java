@@ -498,7 +498,7 @@ public final class HoleFair {
 
         boolean allBroken(Lake lake) {
             for (int i = 0; i < total; i++) {
-                if (!lake.broken[square[i]]) {
+                if (!lake.isBroken(square[i])) {
                     return false;
                 }
             }
@@ -508,10 +508,11 @@ public final class HoleFair {
 
     /** All that is KEPT and UNDONE: SQUARES, HOLES, GROUPS, THE MINUTE, X. */
     private static final class Lake {
+        private static final int BROKEN = -2;
+
         final int[] thick = new int[SQUARES];
-        final boolean[] broken = new boolean[SQUARES];
-        // the number of the OPEN HOLE there, or NONE
-        final int[] openAt = new int[SQUARES];
+        // NONE for whole ice, BROKEN, or the number of the OPEN HOLE there: no SQUARE is BROKEN under one
+        private final int[] cover = new int[SQUARES];
         // GAPS and WARMTH are carried along, since the law asks for them far oftener than they change
         final int[] gaps = new int[SQUARES];
         final int[] warmth = new int[SQUARES];
@@ -530,14 +531,13 @@ public final class HoleFair {
         Lake() {
             for (int i = 0; i < SQUARES; i++) {
                 thick[i] = 50;
-                openAt[i] = NONE;
+                cover[i] = NONE;
             }
         }
 
         void copyFrom(Lake other) {
             System.arraycopy(other.thick, 0, thick, 0, SQUARES);
-            System.arraycopy(other.broken, 0, broken, 0, SQUARES);
-            System.arraycopy(other.openAt, 0, openAt, 0, SQUARES);
+            System.arraycopy(other.cover, 0, cover, 0, SQUARES);
             System.arraycopy(other.gaps, 0, gaps, 0, SQUARES);
             System.arraycopy(other.warmth, 0, warmth, 0, SQUARES);
             System.arraycopy(other.holeSquare, 0, holeSquare, 0, MOST_HOLES);
@@ -558,7 +558,7 @@ public final class HoleFair {
         }
 
         boolean isOpen(int hole) {
-            return hasHole(hole) && openAt[holeSquare[hole]] == hole;
+            return hasHole(hole) && cover[holeSquare[hole]] == hole;
         }
 
         boolean allOpen(int bits) {
@@ -580,7 +580,11 @@ public final class HoleFair {
 
         /** Whole and without an OPEN HOLE. */
         boolean isFirm(int square) {
-            return Grid.hasSquare(square) && !broken[square] && openAt[square] == NONE;
+            return Grid.hasSquare(square) && cover[square] == NONE;
+        }
+
+        boolean isBroken(int square) {
+            return cover[square] == BROKEN;
         }
 
         /** Firm, and no GROUP stands there. */
@@ -589,10 +593,10 @@ public final class HoleFair {
         }
 
         int stateOf(int square) {
-            if (broken[square]) {
+            if (isBroken(square)) {
                 return 1;
             }
-            return openAt[square] == NONE ? 0 : 2;
+            return cover[square] == NONE ? 0 : 2;
         }
 
         /** What CHECK looks for at a SQUARE. */
@@ -602,8 +606,8 @@ public final class HoleFair {
         }
 
         int kindAt(int square) {
-            int hole = openAt[square];
-            return hole == NONE ? NO_KIND : kind[hole];
+            int hole = cover[square];
+            return hasHole(hole) ? kind[hole] : NO_KIND;
         }
 
         int carried(int square) {
@@ -629,7 +633,7 @@ public final class HoleFair {
         int brokenTotal() {
             int total = 0;
             for (int i = 0; i < SQUARES; i++) {
-                total += broken[i] ? 1 : 0;
+                total += isBroken(i) ? 1 : 0;
             }
             return total;
         }
@@ -653,14 +657,14 @@ public final class HoleFair {
             heat[hole] = itsHeat;
             smell[hole] = itsSmell;
             price[hole] = itsPrice;
-            openAt[square] = hole;
+            cover[square] = hole;
             spread(square, 1, itsHeat);
             return hole;
         }
 
         void closeHole(int hole) {
             int square = holeSquare[hole];
-            openAt[square] = NONE;
+            cover[square] = NONE;
             spread(square, -1, -heat[hole]);
         }
 
@@ -676,10 +680,10 @@ public final class HoleFair {
         }
 
         void breakAt(int square) {
-            if (broken[square]) {
+            if (!isFirm(square)) {
                 return;
             }
-            broken[square] = true;
+            cover[square] = BROKEN;
             spread(square, 1, 0);
             for (int g = 0; g < groups; g++) {
                 if (groupSquare[g] == square) {
@@ -689,8 +693,8 @@ public final class HoleFair {
         }
 
         void mend(int square) {
-            if (broken[square]) {
-                broken[square] = false;
+            if (isBroken(square)) {
+                cover[square] = NONE;
                 spread(square, -1, 0);
             }
         }
@@ -734,13 +738,13 @@ public final class HoleFair {
 
         private boolean isHole(int square, int stepX, int stepY) {
             int there = Grid.beside(square, stepX, stepY);
-            return there != NONE && openAt[there] != NONE;
+            return there != NONE && cover[there] >= 0;
         }
 
         boolean isBesideHole(int square) {
             for (int i = 0; i < NEIGHBOURS; i++) {
                 int beside = Grid.neighbour(square, i);
-                if (beside != NONE && openAt[beside] != NONE) {
+                if (beside != NONE && cover[beside] >= 0) {
                     return true;
                 }
             }
@@ -1217,7 +1221,7 @@ public final class HoleFair {
             }
             // t asks only for the THICK of its own SQUARE, so each can thaw in its turn
             for (int square = 0; square < SQUARES; square++) {
-                if (!lake.broken[square]) {
+                if (lake.thick[square] > 0 && !lake.isBroken(square)) {
                     law.lookAt(lake, square, lake.kindAt(square));
                     lake.thick[square] = Math.max(0, lake.thick[square] - law.says('t', MOST_THAW));
                 }
