@@ -215,8 +215,10 @@ public final class HoleFair {
     }
 
     public int rescue(int from, int to, int weight, int what) {
+        // a way goes over no SQUARE twice, so it has no more places than the lake has SQUARES
+        boolean asksPlace = within(what, 0, SQUARES - 1);
         if (!Grid.hasSquare(from) || !Grid.hasSquare(to) || !within(weight, 1, MOST_LOAD)
-                || !within(what, NONE, STEPS)) {
+                || what != NONE && what != STEPS && !asksPlace) {
             return -3;
         }
         if (!way.solve(now, nature, from, to, weight)) {

@@ -884,7 +884,11 @@ final class Model {
 
     /** Rows of squares by rounds: after round k each square has its best row of at most k steps. */
     int rescue(int from, int to, int weight, int what) {
-        if (from < 0 || from > 255 || to < 0 || to > 255 || weight < 1 || weight > 9999 || what < -1 || what > 500) {
+        if (from < 0 || from > 255 || to < 0 || to > 255 || weight < 1 || weight > 9999) {
+            return -3;
+        }
+        // no way can have a place beyond 255, whatever the ice is like
+        if (what < -1 || what > 255 && what != 500) {
             return -3;
         }
         int[] plank = new int[256];

@@ -401,7 +401,10 @@ public final class ModelTest {
         if (Model.there(from % 16, from / 16) && below(2) == 0) {
             weight = Math.max(1, model.bears(from % 16, from / 16) + below(60) - 20);
         }
-        int what = below(3) == 0 ? -1 : below(2) == 0 ? 500 : below(20) == 0 ? about(0, 500) : below(20);
+        int what = below(3) == 0 ? -1 : below(2) == 0 ? 500 : below(20);
+        if (below(8) == 0) {
+            what = below(2) == 0 ? about(0, 500) : about(255, 256);
+        }
         same("rescue " + from + " " + to + " " + weight + " " + what,
                 fair.rescue(from, to, weight, what), model.rescue(from, to, weight, what));
     }

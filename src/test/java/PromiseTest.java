@@ -71,6 +71,7 @@ public final class PromiseTest {
         places();
         closing();
         rescue();
+        rescuePlaces();
         began();
         fee();
         row();
@@ -915,6 +916,45 @@ public final class PromiseTest {
         due("round it", f.rescue(2, 4, 10, 500), 4);
         f.group(8, 8, 49);
         due("a group there weighs nothing", f.rescue(8 * 16 + 7, 8 * 16 + 9, 50, 500), 2);
+    }
+
+    /** What can be asked of a way, where there is one and where there is none. */
+    private static void rescuePlaces() {
+        promise = 18;
+        HoleFair none = new HoleFair();
+        due("planks of no way", none.rescue(0, 0, 127, -1), -2);
+        due("the first of no way", none.rescue(0, 0, 127, 0), -2);
+        due("the last place of no way", none.rescue(0, 0, 127, 255), -2);
+        due("steps of no way", none.rescue(0, 0, 127, 500), -2);
+        HoleFair way = with("bi(1=1)");
+        due("planks of a way", way.rescue(0, 1, 50, -1), 0);
+        due("the last of a way", way.rescue(0, 1, 50, 1), 1);
+        due("beyond a way", way.rescue(0, 1, 50, 2), -3);
+        due("far beyond a way", way.rescue(0, 1, 50, 255), -3);
+        due("steps of a way", way.rescue(0, 1, 50, 500), 1);
+        int[] never = {256, 257, 499, 501, 502, Integer.MAX_VALUE, -2, Integer.MIN_VALUE};
+        for (int what : never) {
+            due("no way has place " + what, none.rescue(0, 0, 127, what), -3);
+            due("nor where there is one, place " + what, way.rescue(0, 1, 50, what), -3);
+        }
+        longestWay();
+    }
+
+    /** A way to and fro between walls of thin ice, and its far places. */
+    private static void longestWay() {
+        // ice of 0 on every other row but for its end: there a weight of 101 can't go, even by a plank
+        HoleFair f = with("bi*9(1=1)");
+        for (int y = 1; y < 16; y += 2) {
+            for (int x = 0; x < 16; x++) {
+                boolean end = y % 4 == 1 ? x == 15 : x == 0;
+                f.ice(x, y, end ? 50 : 0);
+            }
+        }
+        due("steps to and fro", f.rescue(0, 240, 101, 500), 135);
+        due("the last place", f.rescue(0, 240, 101, 135), 240);
+        due("one beyond it", f.rescue(0, 240, 101, 136), -3);
+        due("the last that any has", f.rescue(0, 240, 101, 255), -3);
+        due("none has it", f.rescue(0, 240, 101, 256), -3);
     }
 
     private static void began() {
