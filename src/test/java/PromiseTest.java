@@ -1,52 +1,5 @@
-import java.nio.charset.StandardCharsets;
-
 /** Each promise by its number: ordinary inputs, the edges that the document names, wrong inputs. */
-public final class PromiseTest {
-    private static int wrong = 0;
-    private static int asked = 0;
-    private static int promise = 0;
-
-    private static void due(String what, long got, long want) {
-        asked++;
-        if (got != want) {
-            wrong++;
-            System.out.println("promise " + promise + ", " + what + ": answered " + got + ", due is " + want);
-        }
-    }
-
-    private static void due(String what, boolean got, boolean want) {
-        due(what, got ? 1 : 0, want ? 1 : 0);
-    }
-
-    private static void feed(HoleFair f, int... bytes) {
-        for (int from = 0; from < bytes.length; from += 20) {
-            int[] v = new int[5];
-            for (int i = 0; i < 20 && from + i < bytes.length; i++) {
-                v[i / 4] |= (bytes[from + i] & 255) << (24 - i % 4 * 8);
-            }
-            f.feed(v[0], v[1], v[2], v[3], v[4]);
-        }
-    }
-
-    private static int law(HoleFair f, String text) {
-        byte[] bytes = text.getBytes(StandardCharsets.ISO_8859_1);
-        int[] v = new int[bytes.length];
-        for (int i = 0; i < v.length; i++) {
-            v[i] = bytes[i];
-        }
-        feed(f, v);
-        return f.law(v.length);
-    }
-
-    private static HoleFair with(String text) {
-        HoleFair f = new HoleFair();
-        if (law(f, text) < 1) {
-            wrong++;
-            System.out.println("promise " + promise + ": the test's own law has a fault: " + text);
-        }
-        return f;
-    }
-
+public final class PromiseTest extends Bench {
     public static void main(String[] args) {
         newObject();
         ice();
@@ -80,16 +33,14 @@ public final class PromiseTest {
         keepAndUndo();
         check();
         count();
-        System.out.println((asked - wrong) + " passed, " + wrong + " failed");
-        if (wrong != 0) {
-            System.exit(1);
-        }
+        end();
     }
 
     private static void newObject() {
-        promise = 1;
+        about("promise 1");
         HoleFair f = new HoleFair();
         for (int y = 0; y < 16; y++) {
+            f = new HoleFair();
             for (int x = 0; x < 16; x++) {
                 due("thick", f.square(x, y, 0), 50);
                 due("whole", f.square(x, y, 1), 0);
@@ -105,7 +56,7 @@ public final class PromiseTest {
     }
 
     private static void ice() {
-        promise = 2;
+        about("promise 2");
         HoleFair f = with("b0(1=1);c1(1=1)");
         due("least", f.ice(0, 0, 0), true);
         due("most", f.ice(15, 15, 99), true);
@@ -135,7 +86,7 @@ public final class PromiseTest {
     }
 
     private static void feedIt() {
-        promise = 3;
+        about("promise 3");
         HoleFair f = new HoleFair();
         for (int i = 1; i <= 11; i++) {
             due("feed " + i, f.feed(i, 0, 0, 0, 0), 20 * i);
@@ -153,7 +104,7 @@ public final class PromiseTest {
     }
 
     private static void lawCounts() {
-        promise = 4;
+        about("promise 4");
         HoleFair f = new HoleFair();
         due("no tape", f.law(1), -1);
         due("one", law(f, "b1(1=1)"), 1);
@@ -197,7 +148,7 @@ public final class PromiseTest {
     }
 
     private static void lawFaults() {
-        promise = 4;
+        about("promise 4");
         fault("q1(1=1)", 1, 0);
         fault(";", 1, 0);
         fault("B1(1=1)", 1, 0);
@@ -273,7 +224,7 @@ public final class PromiseTest {
     }
 
     private static void lawReckons() {
-        promise = 4;
+        about("promise 4");
         bears("b7(1=1)", 7);
         bears("b007(1=1)", 7);
         bears("b2+3*4-1(1=1)", 13);
@@ -309,7 +260,7 @@ public final class PromiseTest {
     }
 
     private static void lawRefuses() {
-        promise = 4;
+        about("promise 4");
         bears("b1/0(1=1);b2(1=1)", 0);
         bears("b1%0(1=1);b2(1=1)", 0);
         bears("b5+[1/[x-3]]*0(1=1);b2(1=1)", 0);
@@ -327,7 +278,7 @@ public final class PromiseTest {
     }
 
     private static void lawLetters() {
-        promise = 4;
+        about("promise 4");
         bears("bx*100+y(1=1)", 305);
         bears("bi(1=1)", 50);
         bears("bs+p+d+w+q+m+n+h(1=1)", 0);
@@ -372,7 +323,7 @@ public final class PromiseTest {
     }
 
     private static void cut() {
-        promise = 5;
+        about("promise 5");
         HoleFair f = new HoleFair();
         due("no law", f.cut(0, 0, 0, 0, 0, 0), -2);
         f = with("c1(i>9);b0(x<3);b9(1=1)");
@@ -421,7 +372,7 @@ public final class PromiseTest {
     }
 
     private static void shut() {
-        promise = 6;
+        about("promise 6");
         HoleFair f = with("c1(1=1);bi-n-h(1=1)");
         due("none", f.shut(0), false);
         due("below", f.shut(-1), false);
@@ -441,7 +392,7 @@ public final class PromiseTest {
     }
 
     private static void group() {
-        promise = 7;
+        about("promise 7");
         HoleFair f = with("c1(1=1);b5(1=1)");
         due("x", f.group(-1, 0, 1), -1);
         due("x", f.group(16, 0, 1), -1);
@@ -463,7 +414,7 @@ public final class PromiseTest {
     }
 
     private static void settle() {
-        promise = 8;
+        about("promise 8");
         HoleFair f = with("b30-n*10(1=1);c1(1=1)");
         due("nothing", f.settle(), 0);
         f.group(5, 5, 31);
@@ -502,7 +453,7 @@ public final class PromiseTest {
     }
 
     private static void minutes() {
-        promise = 9;
+        about("promise 9");
         HoleFair f = with("bi(1=1);t1(m<3);t2(x>3);c1(1=1)");
         due("0", f.minutes(0), -1);
         due("61", f.minutes(61), -1);
@@ -532,7 +483,7 @@ public final class PromiseTest {
     }
 
     private static void minuteWays() {
-        promise = 9;
+        about("promise 9");
         HoleFair f = with("b9999(1=1);c1(1=1);gs(1=1)");
         f.cut(5, 5, 0, 0, 3, 0);
         f.cut(9, 9, 0, 0, 3, 0);
@@ -583,7 +534,7 @@ public final class PromiseTest {
     }
 
     private static void run() {
-        promise = 10;
+        about("promise 10");
         HoleFair f = with("bi(1=1);t1(1=1);c1(1=1);gs(1=1)");
         f.group(1, 1, 45);
         f.group(5, 1, 1);
@@ -617,7 +568,7 @@ public final class PromiseTest {
     }
 
     private static void square() {
-        promise = 11;
+        about("promise 11");
         HoleFair f = with("bi*3+n+h*10+k(1=1);c1(1=1)");
         for (int what = 0; what < 6; what++) {
             due("x", f.square(16, 0, what), -1);
@@ -651,7 +602,7 @@ public final class PromiseTest {
     }
 
     private static void holeIs() {
-        promise = 12;
+        about("promise 12");
         HoleFair f = with("c1(1=1)");
         due("none", f.holeIs(0, 0), -1);
         f.cut(7, 9, 4, 1, 2, 3);
@@ -672,7 +623,7 @@ public final class PromiseTest {
     }
 
     private static void groupIs() {
-        promise = 13;
+        about("promise 13");
         HoleFair f = with("c1(1=1);b50(1=1);g99-d(p<5)");
         due("none", f.groupIs(0, 0), -1);
         f.group(3, 4, 51);
@@ -698,7 +649,7 @@ public final class PromiseTest {
     }
 
     private static void draws() {
-        promise = 14;
+        about("promise 14");
         HoleFair f = with("c1(1=1);b50(1=1);gd*w(1=1)");
         f.cut(3, 3, 0, 0, 0, 0);
         f.cut(8, 3, 0, 0, 0, 0);
@@ -719,7 +670,7 @@ public final class PromiseTest {
     }
 
     private static void sound() {
-        promise = 15;
+        about("promise 15");
         HoleFair f = with("c1(1=1);bi(x<9);b40-m(1=1);t1(h>0);t5(x=15)");
         f.cut(4, 4, 0, 1, 0, 0);
         f.cut(12, 4, 0, 0, 0, 0);
@@ -762,7 +713,7 @@ public final class PromiseTest {
     }
 
     private static void places() {
-        promise = 16;
+        about("promise 16");
         HoleFair f = with("c1(k=0&i>9);b9(1=1)");
         feed(f, 0, 9);
         due("n", f.places(0, -1), -3);
@@ -816,7 +767,7 @@ public final class PromiseTest {
     }
 
     private static void closing() {
-        promise = 17;
+        about("promise 17");
         HoleFair f = with("c1(1=1);b50-m*y(1=1)");
         due("no hole", f.closing(1, 0, -1), -3);
         f.cut(1, 4, 4, 1, 0, 0);
@@ -870,7 +821,7 @@ public final class PromiseTest {
     }
 
     private static void rescue() {
-        promise = 18;
+        about("promise 18");
         HoleFair f = with("bi(1=1);c1(1=1)");
         due("from", f.rescue(-1, 0, 1, -1), -3);
         due("from", f.rescue(256, 0, 1, -1), -3);
@@ -920,7 +871,7 @@ public final class PromiseTest {
 
     /** What can be asked of a way, where there is one and where there is none. */
     private static void rescuePlaces() {
-        promise = 18;
+        about("promise 18");
         HoleFair none = new HoleFair();
         due("planks of no way", none.rescue(0, 0, 127, -1), -2);
         due("the first of no way", none.rescue(0, 0, 127, 0), -2);
@@ -958,7 +909,7 @@ public final class PromiseTest {
     }
 
     private static void began() {
-        promise = 19;
+        about("promise 19");
         HoleFair f = with("b30-n*10(1=1);c1(1=1)");
         f.group(5, 5, 25);
         f.group(6, 5, 25);
@@ -1025,7 +976,7 @@ public final class PromiseTest {
     }
 
     private static void fee() {
-        promise = 20;
+        about("promise 20");
         HoleFair f = with("bi(1=1);c1(1=1)");
         feed(f, 0, 9, 1, 5, 2, 7);
         due("n", f.fee(0, 0, -1), -3);
@@ -1069,7 +1020,7 @@ public final class PromiseTest {
     }
 
     private static void row() {
-        promise = 21;
+        about("promise 21");
         rowsByAllSteps();
         HoleFair f = with("c1(1=1);b9(1=1)");
         due("x", f.row(-1, 0), -1);
@@ -1127,7 +1078,7 @@ public final class PromiseTest {
     }
 
     private static void seed() {
-        promise = 22;
+        about("promise 22");
         HoleFair f = new HoleFair();
         due("first", f.count(5), 1);
         due("least", f.seed(0), true);
@@ -1142,7 +1093,7 @@ public final class PromiseTest {
     }
 
     private static void draw() {
-        promise = 23;
+        about("promise 23");
         HoleFair f = with("b50(1=1);t1(1=1);c1(1=1)");
         due("n", f.draw(0), -1);
         due("n", f.draw(61), -1);
@@ -1153,7 +1104,7 @@ public final class PromiseTest {
         long x = 1;
         int[] at = {8, 8, 8, 8, 8, 8, 8, 8};
         int[] up = {8, 8, 8, 8, 8, 8, 8, 8};
-        for (int i = 0; i < 200; i++) {
+        for (int i = 0; i < 160; i++) {
             f.draw(1);
             x = (25173 * x + 13849) % 65536;
             int g = (int) (x % 8);
@@ -1163,7 +1114,7 @@ public final class PromiseTest {
             due("x", f.count(5), x);
             due("group", f.groupIs(g, 0), 16 * up[g] + at[g]);
         }
-        due("minutes", f.count(0), 200);
+        due("minutes", f.count(0), 160);
         due("thawed", f.square(0, 0, 0), 0);
         law(f, "b0(1=1)");
         due("all drown", f.draw(1), 8);
@@ -1184,7 +1135,7 @@ public final class PromiseTest {
     }
 
     private static void keepAndUndo() {
-        promise = 24;
+        about("promise 24");
         HoleFair f = with("b10-n(1=1);t1(1=1);c1(1=1)");
         f.group(2, 2, 11);
         f.group(5, 5, 3);
@@ -1193,7 +1144,7 @@ public final class PromiseTest {
         f.minutes(2);
         f.seed(77);
         due("broken", f.keep(), 1);
-        promise = 25;
+        about("promise 25");
         f.ice(2, 2, 9);
         f.ice(0, 0, 3);
         f.shut(0);
@@ -1229,16 +1180,8 @@ public final class PromiseTest {
         due("the last kept", f.count(1), 2);
     }
 
-    private static void numbers(HoleFair f, int... v) {
-        for (int from = 0; from < v.length; from += 5) {
-            int[] five = new int[5];
-            System.arraycopy(v, from, five, 0, Math.min(5, v.length - from));
-            f.feed(five[0], five[1], five[2], five[3], five[4]);
-        }
-    }
-
     private static void check() {
-        promise = 26;
+        about("promise 26");
         HoleFair f = with("b10(1=1);c1(1=1)");
         f.cut(1, 3, 0, 0, 0, 0);
         f.group(2, 3, 11);
@@ -1275,7 +1218,7 @@ public final class PromiseTest {
     }
 
     private static void count() {
-        promise = 27;
+        about("promise 27");
         HoleFair f = with("b10(1=1);c1(1=1);t1(1=1)");
         f.cut(1, 3, 0, 0, 0, 0);
         f.cut(5, 3, 0, 0, 0, 0);
