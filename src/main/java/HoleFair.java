@@ -409,7 +409,7 @@ public final class HoleFair {
         }
 
         static int way(int a, int b) {
-            return Math.abs((a & (SIDE - 1)) - (b & (SIDE - 1))) + Math.abs((a >> 4) - (b >> 4));
+            return Math.abs(xOf(a) - xOf(b)) + Math.abs(yOf(a) - yOf(b));
         }
 
         static boolean touch(int a, int b) {
@@ -1209,7 +1209,7 @@ public final class HoleFair {
             for (int i = 0; i < n; i++) {
                 thaw(lake);
                 for (int g = 0; g < lake.groups; g++) {
-                    walk(lake, g);
+                    walk(lake, g, lake.isAfloat(g) ? strongest(lake, g) : NONE);
                 }
                 settleAll(lake);
                 lake.minute++;
@@ -1230,8 +1230,8 @@ public final class HoleFair {
             }
         }
 
-        private void walk(Lake lake, int g) {
-            int hole = lake.isAfloat(g) ? strongest(lake, g) : NONE;
+        /** One SQUARE nearer to a HOLE, if there is one (not NONE) and it is not near. */
+        private void walk(Lake lake, int g, int hole) {
             if (hole == NONE) {
                 return;
             }
